@@ -19,6 +19,7 @@ public final class DriftTest {
     private static void again() {
         check.only("with none", x -> { }, x -> x.again(), Check.NONE);
         check.only("with one", x -> Check.feed(x, "ship 4 3 0"), x -> x.again(), 10);
+        check.only("with an odd one", x -> Check.feed(x, "time 1 7;ship 4 1 3"), x -> x.again(), 7);
         check.only("with two on one circle", x -> Check.feed(x, "ship 4 3 0;ship 0 3 1"), x -> x.again(), 10);
         check.only("4 and 6 and 10", x -> Check.feed(x, "ship 4 0 0;ship 0 1 1;ship 2 3 1"), x -> x.again(), 60);
         Consumer<FasterToBeLater> six = x -> Check.feed(x,
@@ -62,6 +63,8 @@ public final class DriftTest {
             check.only("queue(0, " + g + ")", set, x -> x.queue(0, wide), due[g]);
         }
         check.only("queue(0, 20)", set, x -> x.queue(0, 20), 30);
+        check.only("the first ship may be in it", x -> Check.feed(x, "ship 0 0 0;ship 4 0 1;ship 4 0 3"), x -> x.queue(1, 2), 1);
+        check.only("another station, too", x -> Check.feed(x, "ship 0 0 0;ship 4 0 1;ship 4 0 3"), x -> x.queue(1, 3), 5);
         check.only("one that comes isn't in it", set.andThen(x -> x.change(5, 1)), x -> x.queue(0, 20), 30);
         check.refused("queue of no station", set, x -> x.queue(1, 0), Check.STUCK);
         check.refused("queue of no station, g 21", set, x -> x.queue(1, 21), Check.BAD);
@@ -72,6 +75,7 @@ public final class DriftTest {
     private static void fullest() {
         check.only("of none", x -> { }, x -> x.fullest(), 0);
         check.only("of one", x -> Check.feed(x, "ship 0 3 0"), x -> x.fullest(), 3);
+        check.only("the second", x -> Check.feed(x, "ship 0 1 0"), x -> x.fullest(), 1);
         check.only("of several the first", x -> Check.feed(x, "ship 0 3 0;ship 0 2 0;ship 0 2 1;ship 0 3 0"), x -> x.fullest(), 2);
         Consumer<FasterToBeLater> busy = x -> {
             Check.feed(x, "ship 0 2 0 drops 9;ship 0 2 0;ship 0 3 0");
@@ -92,6 +96,7 @@ public final class DriftTest {
         check.only("one that comes", comes, x -> x.clash(60), 2);
         check.only("just then", comes, x -> x.clash(2), 2);
         check.only("not yet", comes, x -> x.clash(1), Check.NONE);
+        check.only("not while it is busy for one step", comes.andThen(x -> x.step(1)), x -> x.clash(0), Check.NONE);
         check.refused("clash(-1)", never, x -> x.clash(-1), Check.BAD);
         check.refused("clash(61)", never, x -> x.clash(61), Check.BAD);
     }

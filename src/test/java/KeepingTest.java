@@ -47,6 +47,7 @@ public final class KeepingTest {
         x.fill(0, 50);
         x.show(0, 0);
         x.show(1, 1);
+        x.show(7, 1);
         Check.put(x, 2, 2, 8, 9);
         x.feed(7);
         x.set(5, 0, 0);
@@ -54,11 +55,20 @@ public final class KeepingTest {
         check.due("a ship that is there", x.holds(0), 10);
         check.due("it is the one that was kept", x.says(0, 0), 4);
         check.due("a ship that isn't", x.holds(1), Check.NONE);
+        check.due("nor on the last shelf", x.holds(7), Check.NONE);
         check.due("a row", x.element(2, 1), 9);
         check.due("the tape", x.status(6), 1);
         check.due("refusals", x.status(14), 1);
         x.ship(2, 2, 2, 2);
         check.due("a new ship of that number isn't shown", x.holds(1), Check.NONE);
+        FasterToBeLater y = new FasterToBeLater();
+        y.image();
+        y.bolts(6);
+        for (int s = 0; s < 8; s++) {
+            y.show(s, s % 6);
+        }
+        y.back();
+        check.due("no shelf holds a ship that isn't", y.status(8), 0);
     }
 
     private static void status() {
@@ -74,6 +84,11 @@ public final class KeepingTest {
         for (int what = 0; what < due.length; what++) {
             check.due("status(" + what + ")", x.status(what), due[what]);
         }
+        check.due("a tug that is busy once more", Check.read("circles 2;time 0 2;ship 1 0 0 drops 1").change(0, 1), 1);
+        FasterToBeLater busyOnce = Check.read("circles 2;time 0 2;ship 4 0 0;ship 1 0 0 drops 1");
+        busyOnce.change(1, 1);
+        check.due("busy for one step", busyOnce.status(5), 2);
+        check.due("again, with one busy for one step", busyOnce.again(), Check.NONE);
         x.step(61);
         x.set(6, 0, 0);
         x.set(6, 0, 0);

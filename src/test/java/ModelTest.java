@@ -7,17 +7,21 @@ public final class ModelTest {
     private static final int RUNS = Integer.getInteger("runs", 400);
     private static final int CALLS = 512;
     private static final String[] WORDS = {"circles", "time", "cost", "ship", "step", "drops", ";", "x", "shi", "A"};
+    private static final int[] WILD = {Integer.MIN_VALUE, Integer.MIN_VALUE + 1, -65536, -21, -2, 6, 7, 8, 20, 21, 40, 41,
+        60, 61, 99, 100, 255, 256, 400, 401, 65536, 1 << 30, Integer.MAX_VALUE - 1, Integer.MAX_VALUE};
     private static int wrong;
 
     private final Random random;
     private final FasterToBeLater made = new FasterToBeLater();
     private final PlainModel model = new PlainModel();
     private final List<String> told = new ArrayList<>();
+    private final boolean isWild;
     private String call = "";
     private int calls;
 
     private ModelTest(long seed) {
         random = new Random(seed);
+        isWild = seed % 5 == 4;
     }
 
     public static void main(String[] args) {
@@ -87,6 +91,9 @@ public final class ModelTest {
     }
 
     private int low(int bound) {
+        if (isWild && random.nextInt(8) == 0) {
+            return WILD[random.nextInt(WILD.length)];
+        }
         int v = up(bound);
         return random.nextInt(60) == 0 ? -1 - random.nextInt(2) : random.nextInt(300) == 0 ? random.nextInt() : v;
     }

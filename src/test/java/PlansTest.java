@@ -6,6 +6,8 @@ public final class PlansTest {
 
     public static void main(String[] args) {
         oneChange();
+        lastStep();
+        fewerOrSooner();
         busyAndUnable();
         firstOfSeveral();
         round();
@@ -43,6 +45,53 @@ public final class PlansTest {
         Consumer<FasterToBeLater> tug = x -> Check.feed(x, "circles 2;time 0 2;time 1 4;cost 0 3;ship 1 0 0 drops 2;ship 4 1 1");
         check.only("a tug's drops", tug, x -> x.cheapest(0, 1, 1), 2);
         check.only("a tug's soonest", tug, x -> x.soonest(0, 1), 1);
+    }
+
+    private static void lastStep() {
+        // ahead of STEP 51 it is at PLACE 1 of 18, and 9 STEPS later at 0 and 7 of 15, where the STATION is then
+        Consumer<FasterToBeLater> set = x -> Check.feed(x, "circles 2;time 0 18;time 1 15;ship 0 0 4 drops 1;ship 4 1 7");
+        check.only("soonest at 60", set, x -> x.soonest(0, 1), 60);
+        check.only("cheapest by 60", set, x -> x.cheapest(0, 1, 60), 1);
+        check.only("cheapest by 59", set, x -> x.cheapest(0, 1, 59), Check.NONE);
+        check.only("round by 60", set, x -> x.round(0, 2, 60), 1);
+        check.only("round by 59", set, x -> x.round(0, 2, 59), Check.NONE);
+        FasterToBeLater x = Check.made(set);
+        for (int i = 0; i < 60; i++) {
+            check.due("way of 60, " + i, x.way(0, 1, i), i == 51 ? 1 : 0);
+        }
+        check.due("way of 60, 60", x.way(0, 1, 60), Check.STUCK);
+        Consumer<FasterToBeLater> late = y -> Check.feed(y, "circles 2;time 0 18;time 1 15;ship 0 0 3 drops 1;ship 4 1 6");
+        check.only("soonest at 61 is none", late, y -> y.soonest(0, 1), Check.NONE);
+    }
+
+    private static void fewerOrSooner() {
+        // one CHANGE leads there at STEP 60, three do by 59: what it has decides, and by 60 the fewest do
+        String text = "circles 2;time 0 9;time 1 8;ship 0 0 8 drops %d;ship 4 1 0";
+        Consumer<FasterToBeLater> poor = x -> Check.feed(x, String.format(text, 1));
+        Consumer<FasterToBeLater> rich = x -> Check.feed(x, String.format(text, 3));
+        check.only("cheapest by 60", rich, x -> x.cheapest(0, 1, 60), 1);
+        check.only("cheapest by 59", poor, x -> x.cheapest(0, 1, 59), 3);
+        check.only("soonest of a poor one", poor, x -> x.soonest(0, 1), 60);
+        FasterToBeLater x = Check.made(rich);
+        int first = x.soonest(0, 1);
+        check.due("soonest of a rich one is sooner", first < 60 ? 1 : 0, 1);
+        flyInTruth(x, first);
+    }
+
+    /** Follows THE WAY of SHIP 0 to SHIP 1 with CHANGES and STEPS in truth. */
+    private static void flyInTruth(FasterToBeLater x, int first) {
+        int[] codes = new int[first];
+        for (int i = 0; i < first; i++) {
+            codes[i] = x.way(0, 1, i);
+        }
+        for (int i = 0; i < first; i++) {
+            check.due("they don't meet at " + i, x.meets(0, 1), 0);
+            if (codes[i] != 0) {
+                check.due("the change ahead of step " + i, x.change(0, codes[i]), 1);
+            }
+            x.step(1);
+        }
+        check.due("they meet at " + first, x.meets(0, 1), 1);
     }
 
     private static void busyAndUnable() {

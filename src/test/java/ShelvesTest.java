@@ -136,6 +136,7 @@ public final class ShelvesTest {
         check.only("the last element", setting, y -> y.element(0, 1), Long.MAX_VALUE);
         check.only("an element behind the last", setting, y -> y.element(0, 2), 0);
         check.only("an element at -1", setting, y -> y.element(0, -1), 0);
+        check.only("an element behind forty", y -> y.row(0, 0, 40), y -> y.element(0, 40), 0);
         check.only("an element of a ship", setting, y -> y.element(3, 0), 0);
         check.only("an element of nothing", setting, y -> y.element(1, 0), 0);
         check.only("an element on shelf 8", setting, y -> y.element(8, 0), 0);

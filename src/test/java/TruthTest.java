@@ -79,6 +79,9 @@ public final class TruthTest {
         check.due("the other has", x.shipOf(1, 3), 99);
         check.due("hand all", x.hand(0, 2, 11), 61);
         check.due("the tanker has none", x.shipOf(0, 3), 0);
+        FasterToBeLater all = Check.read("ship 5 1 2 drops 99;ship 2 1 2");
+        check.due("hand 99", all.hand(0, 1, 99), 99);
+        check.due("none is left", all.shipOf(0, 3), 0);
         check.refused("one twice", set, y -> y.hand(0, 0, 1), Check.BAD);
         check.refused("none", set, y -> y.hand(5, 0, 1), Check.BAD);
         check.refused("no other", set, y -> y.hand(0, -1, 1), Check.BAD);
