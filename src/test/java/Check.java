@@ -1,4 +1,5 @@
 import java.util.function.Consumer;
+import java.util.function.ToLongBiFunction;
 import java.util.function.ToLongFunction;
 
 /** Counts the answers that are not as due, and ends with exit code 1 if there was one. */
@@ -10,7 +11,13 @@ final class Check {
     static final int STUCK = -5;
     static final int FULL = -6;
 
+    /** The Terms of the document, where a promise's number would stand. */
+    static final int TERMS = 0;
+
+    private static final int REFUSAL_SORTS = 5;
+
     private final String name;
+    private String sentence = "";
     private int done;
     private int wrong;
 
@@ -18,12 +25,28 @@ final class Check {
         this.name = name;
     }
 
+    /** The sentence of the document that what follows looks at; SentencesTest looks it up there. */
+    void of(int promise, String words) {
+        sentence = " [" + (promise == TERMS ? "Terms" : "Promise " + promise) + ": " + words + "]";
+    }
+
     void due(String what, long got, long want) {
         done++;
         if (got != want) {
-            wrong++;
-            System.out.println(name + ": " + what + " answered " + got + ", due is " + want);
+            tell(what + " answered " + got + ", due is " + want);
         }
+    }
+
+    void same(String what, String got, String want) {
+        done++;
+        if (!got.equals(want)) {
+            tell(what + ": " + got + " and not " + want);
+        }
+    }
+
+    private void tell(String fault) {
+        wrong++;
+        System.out.println(name + ": " + fault + sentence);
     }
 
     /** The call answers the number of a refusal, and nothing changes but how many of it there were. */
@@ -33,30 +56,69 @@ final class Check {
 
     void refused(String what, Consumer<FasterToBeLater> setting, ToLongFunction<FasterToBeLater> call, int answer, int number) {
         FasterToBeLater x = made(setting);
-        String before = told(x);
-        int[] counts = refusals(x);
+        int[] ahead = refusals(x);
         due(what, call.applyAsLong(x), answer);
-        String behind = told(x);
-        int[] countsBehind = refusals(x);
-        for (int i = 0; i < counts.length; i++) {
-            due(what + ", refusals " + (-2 - i), countsBehind[i], counts[i] + (-2 - i == number ? 1 : 0));
+        int[] behind = refusals(x);
+        for (int i = 0; i < REFUSAL_SORTS; i++) {
+            due(what + ", refusals " + (BAD - i), behind[i], ahead[i] + (BAD - i == number ? 1 : 0));
         }
-        unchanged(what, before, behind);
+        unchanged(what, setting, call);
     }
 
     /** The call answers this, nothing is refused and nothing at all changes. */
     void only(String what, Consumer<FasterToBeLater> setting, ToLongFunction<FasterToBeLater> call, long answer) {
-        FasterToBeLater x = made(setting);
-        String before = told(x) + java.util.Arrays.toString(refusals(x));
-        due(what, call.applyAsLong(x), answer);
-        unchanged(what, before, told(x) + java.util.Arrays.toString(refusals(x)));
+        taken(what, setting, call, answer);
+        unchanged(what, setting, call);
     }
 
-    private void unchanged(String what, String before, String behind) {
-        done++;
-        if (!before.equals(behind)) {
-            wrong++;
-            System.out.println(name + ": " + what + " changed " + before + " to " + behind);
+    /** The call answers this, and nothing is refused. */
+    void taken(String what, Consumer<FasterToBeLater> setting, ToLongFunction<FasterToBeLater> call, long answer) {
+        FasterToBeLater x = made(setting);
+        int[] ahead = refusals(x);
+        due(what, call.applyAsLong(x), answer);
+        int[] behind = refusals(x);
+        for (int i = 0; i < REFUSAL_SORTS; i++) {
+            due(what + ", refusals " + (BAD - i), behind[i], ahead[i]);
+        }
+    }
+
+    /** From low to high the number may be; the next at both ends, and the ends of all ints, are BAD. */
+    void span(String what, Consumer<FasterToBeLater> setting, ToLongBiFunction<FasterToBeLater, Integer> call, int low, int high) {
+        for (int v = low; v <= high; v++) {
+            FasterToBeLater x = made(setting);
+            int ahead = x.status(12);
+            call.applyAsLong(x, v);
+            due(what + " of " + v + " may be: refusals BAD", x.status(12), ahead);
+        }
+        int[] outside = {low - 1, high + 1, Integer.MIN_VALUE, Integer.MAX_VALUE};
+        for (int v : outside) {
+            refused(what + " of " + v, setting, x -> call.applyAsLong(x, v), BAD);
+        }
+    }
+
+    /**
+     * Two objects of one setting, of which only one got the call, tell the same; also behind calls that bring out what
+     * can't be seen at once: what THE TAPE has, what an image kept, and CIRCLES that aren't there.
+     */
+    private void unchanged(String what, Consumer<FasterToBeLater> setting, ToLongFunction<FasterToBeLater> call) {
+        for (int probe = 0; probe < 4; probe++) {
+            FasterToBeLater x = made(setting);
+            call.applyAsLong(x);
+            FasterToBeLater twin = made(setting);
+            same(what + " changed (probe " + probe + ")", probed(x, probe) + told(x), probed(twin, probe) + told(twin));
+        }
+    }
+
+    private static String probed(FasterToBeLater x, int probe) {
+        switch (probe) {
+            case 1:
+                return x.world() + " ";
+            case 2:
+                return x.back() + " " + x.circles(6) + " ";
+            case 3:
+                return x.circles(6) + " ";
+            default:
+                return "";
         }
     }
 
@@ -73,28 +135,43 @@ final class Check {
         return x;
     }
 
+    /** A setting that a text brings about. */
+    static Consumer<FasterToBeLater> text(String text) {
+        return x -> {
+            if (feed(x, text) < 0) {
+                throw new IllegalStateException("the test's own text has a fault: " + text);
+            }
+        };
+    }
+
     static FasterToBeLater read(String text) {
-        return made(x -> feed(x, text));
+        return made(text(text));
     }
 
     /** Feeds a text and reads it. */
     static int feed(FasterToBeLater x, String text) {
+        letters(x, text);
+        return x.world();
+    }
+
+    static void letters(FasterToBeLater x, String text) {
         for (int i = 0; i < text.length(); i++) {
             x.feed(text.charAt(i));
         }
-        return x.world();
     }
 
     static void put(FasterToBeLater x, int s, int sort, long... values) {
         x.row(s, sort, values.length);
         for (int i = 0; i < values.length; i++) {
-            x.set(s, i, values[i]);
+            if (values[i] != 0) {
+                x.set(s, i, values[i]);
+            }
         }
     }
 
     private static int[] refusals(FasterToBeLater x) {
-        int[] counts = new int[5];
-        for (int i = 0; i < 5; i++) {
+        int[] counts = new int[REFUSAL_SORTS];
+        for (int i = 0; i < REFUSAL_SORTS; i++) {
             counts[i] = x.status(12 + i);
         }
         return counts;
@@ -106,18 +183,21 @@ final class Check {
         for (int what = 0; what <= 8; what++) {
             b.append(x.status(what)).append(' ');
         }
-        for (int i = 0; i < x.status(1); i++) {
+        int ships = x.status(1);
+        for (int i = 0; i < ships; i++) {
             b.append("ship");
             for (int what = 0; what <= 4; what++) {
                 b.append(' ').append(x.shipOf(i, what));
             }
         }
-        for (int c = 0; c < x.status(0); c++) {
+        int circles = x.status(0);
+        for (int c = 0; c < circles; c++) {
             b.append(" circle ").append(x.circleOf(c, 0)).append(' ').append(x.circleOf(c, 1));
         }
         for (int s = 0; s < 8; s++) {
-            b.append(" shelf ").append(x.holds(s));
-            for (int i = 0; i < 7 && x.holds(s) >= 0 && x.holds(s) < 10; i++) {
+            int content = x.holds(s);
+            b.append(" shelf ").append(content);
+            for (int i = 0; i < 40 && content >= 0 && content < 10; i++) {
                 b.append(' ').append(x.element(s, i));
             }
         }
