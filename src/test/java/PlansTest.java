@@ -15,6 +15,9 @@ public final class PlansTest {
         withWhatItHas();
         lastStep();
         fewerOrSooner();
+        longestChange();
+        greatestSky();
+        oneAfterAnother();
         meetsNow();
         busyOnes();
         firstOfSeveral();
@@ -181,6 +184,96 @@ public final class PlansTest {
             x.step(1);
         }
         check.due("they meet at " + first, x.meets(0, 1), 1);
+    }
+
+    private static void longestChange() {
+        // TIMES 20: each CHANGE takes ten STEPS and keeps the direction
+        Consumer<FasterToBeLater> set = Check.text("circles 3;time 0 20;time 1 20;time 2 20;cost 0 2;cost 1 3;ship 0 0 0 drops 2;ship 4 1 0;ship 0 2 0 drops 3;ship 4 0 0");
+        int[][] pairs = {{0, 1, 2}, {2, 1, 3}};
+        for (int[] pair : pairs) {
+            int ship = pair[0];
+            int other = pair[1];
+            check.only("soonest", set, x -> x.soonest(ship, other), 10);
+            check.only("cheapest by 10", set, x -> x.cheapest(ship, other, 10), pair[2]);
+            check.only("cheapest by 9", set, x -> x.cheapest(ship, other, 9), Check.NONE);
+            check.only("round by 10", set, x -> x.round(ship, 1 << other, 10), pair[2]);
+            check.only("round by 9", set, x -> x.round(ship, 1 << other, 9), Check.NONE);
+            for (int i = 0; i < 10; i++) {
+                int at = i;
+                check.only("way " + i, set, x -> x.way(ship, other, at), i == 0 ? ship == 0 ? 1 : 2 : 0);
+            }
+            Consumer<FasterToBeLater> sighted = set.andThen(x -> Check.put(x, 0, 0, 10, 1, 10));
+            check.only("burnt at 10", sighted, x -> x.burnt(0, 1, ship), pair[2]);
+            check.only("burnt at 9", set.andThen(x -> Check.put(x, 0, 0, 9, 1, 9)), x -> x.burnt(0, 1, ship), Check.NONE);
+            check.only("burnt at 9, where it lands", set.andThen(x -> Check.put(x, 0, 0, 9, 1, 10)), x -> x.burnt(0, 1, ship), Check.NONE);
+        }
+        check.only("two of them by 20", set, x -> x.cheapest(2, 3, 20), 5);
+        check.only("two of them by 19", set, x -> x.cheapest(2, 3, 19), Check.NONE);
+        check.only("there and back by 20", set, x -> x.round(0, 10, 20), 2);
+    }
+
+    /** All CIRCLES there can be, each with the longest TIME. */
+    private static void greatestSky() {
+        Consumer<FasterToBeLater> set = x -> {
+            x.circles(6);
+            for (int c = 0; c < 6; c++) {
+                x.time(c, 20);
+                x.cost(c, c + 1);
+            }
+            x.ship(0, 0, 19, 99);
+            x.ship(4, 5, 19, 0);
+            x.ship(5, 5, 19, 99);
+            x.ship(4, 0, 19, 0);
+            x.ship(4, 5, 0, 0);
+            Check.put(x, 0, 1, 0, 0, 19, 50, 5, 9);
+        };
+        check.only("up", set, x -> x.soonest(0, 1), 50);
+        check.only("up, drops", set, x -> x.cheapest(0, 1, 60), 15);
+        check.only("down", set, x -> x.soonest(2, 3), 50);
+        check.only("down, a TANKER's drops", set, x -> x.cheapest(2, 3, 60), 9);
+        check.only("never", set, x -> x.cheapest(0, 4, 60), Check.NONE);
+        check.only("burnt", set, x -> x.burnt(0, 2, 0), 15);
+        check.only("round", set, x -> x.round(0, 14, 60), 15);
+        FasterToBeLater up = Check.made(set);
+        FasterToBeLater down = Check.made(set);
+        for (int i = 0; i < 50; i++) {
+            check.due("way up " + i, up.way(0, 1, i), i % 10 == 0 ? 1 : 0);
+            check.due("way down " + i, down.way(2, 3, i), i % 10 == 0 ? 2 : 0);
+        }
+        check.due("no more up", up.way(0, 1, 50), Check.STUCK);
+        check.due("no more down", down.way(2, 3, 50), Check.STUCK);
+    }
+
+    /** What was asked ahead has no part in what is answered. */
+    private static void oneAfterAnother() {
+        Consumer<FasterToBeLater> set = x -> {
+            Check.feed(x, "circles 3;time 0 4;time 1 3;time 2 5;cost 0 2;cost 1 5;ship 0 0 1 drops 20;ship 4 1 2;ship 4 2 3;ship 1 1 0 drops 3;ship 2 0 1");
+            Check.put(x, 0, 0, 9, 1, 1, 20, 2, 2);
+            Check.put(x, 1, 0, 4, 0, 1);
+        };
+        java.util.List<ToLongFunction<FasterToBeLater>> asked = java.util.List.of(
+            x -> x.cheapest(0, 1, 60), x -> x.round(0, 22, 60), x -> x.soonest(3, 2), x -> x.way(0, 2, 0), x -> x.burnt(0, 2, 0), x -> x.cheapest(4, 0, 60),
+            x -> x.round(3, 6, 30), x -> x.soonest(0, 2), x -> x.burnt(1, 1, 4), x -> x.tag(0, 1, 5), x -> x.cheapest(3, 4, 60), x -> x.way(3, 1, 1),
+            x -> x.tag(3, 0, 4), x -> x.round(4, 1, 0), x -> x.soonest(4, 2));
+        for (int on = 1; on < asked.size(); on++) {
+            FasterToBeLater x = Check.made(set);
+            for (int i = 0; i < asked.size(); i++) {
+                int k = (on * i + on) % asked.size();
+                check.due("question " + k + " behind others", asked.get(k).applyAsLong(x), asked.get(k).applyAsLong(Check.made(set)));
+            }
+        }
+        // what is done between has a part in it
+        FasterToBeLater x = Check.made(set);
+        x.cheapest(0, 1, 60);
+        x.tag(0, 1, 5);
+        x.step(3);
+        x.cost(0, 9);
+        FasterToBeLater y = Check.made(set);
+        y.step(3);
+        y.cost(0, 9);
+        for (ToLongFunction<FasterToBeLater> question : asked) {
+            check.due("behind a change", question.applyAsLong(x), question.applyAsLong(y));
+        }
     }
 
     private static void meetsNow() {
@@ -408,6 +501,15 @@ public final class PlansTest {
         check.only("too early", set, x -> x.round(0, 14, 1), Check.NONE);
         Consumer<FasterToBeLater> below = Check.text("circles 2;time 0 4;time 1 4;cost 0 2;ship 0 0 0;ship 4 1 0;ship 4 0 0");
         check.only("the near one first", below, x -> x.round(0, 6, 2), 2);
+        // all TIMES 2, one below and one above: the order that costs one drop less, whoever has the lower number
+        String sky = "circles 3;time 0 2;time 1 2;time 2 2;cost 0 %d;cost 1 %d;ship 0 1 0;ship 4 %d 0;ship 4 %d 0";
+        for (int first = 0; first <= 2; first += 2) {
+            check.only("below first", Check.text(String.format(sky, 1, 2, first, 2 - first)), x -> x.round(0, 6, 3), 4);
+            check.only("above first", Check.text(String.format(sky, 2, 1, first, 2 - first)), x -> x.round(0, 6, 3), 4);
+            check.only("below first, by 60", Check.text(String.format(sky, 1, 2, first, 2 - first)), x -> x.round(0, 6, 60), 4);
+            check.only("above first, by 60", Check.text(String.format(sky, 2, 1, first, 2 - first)), x -> x.round(0, 6, 60), 4);
+            check.only("neither, too early", Check.text(String.format(sky, 1, 1, first, 2 - first)), x -> x.round(0, 6, 2), Check.NONE);
+        }
     }
 
     private static void home() {

@@ -247,6 +247,7 @@ public final class TapeTest {
             fault("  " + text, 2);
             fault("step 1;" + text, 7);
         }
+        almostWords();
         fault("circles x", 8);
         fault("circles circles", 8);
         fault("circles ;", 8);
@@ -273,6 +274,26 @@ public final class TapeTest {
         fault("time 4 99", 5);
         fault("ship 6 9 9 drops 100", 5);
         fault("circles 9 !", 8);
+    }
+
+    /** Each word with one letter that is another: the next one, and the one ahead of it. */
+    private static void almostWords() {
+        String[] texts = {"circles 3", "time 0 5", "cost 0 1", "ship 0 0 0", "step 1"};
+        for (String text : texts) {
+            check.due(text, read(text), 1);
+            for (int i = 0; i < text.indexOf(' '); i++) {
+                check.due("almost " + text, read(almost(text, i, 1)), -20);
+                check.due("almost " + text, read(almost(text, i, -1)), -20);
+            }
+        }
+        for (int i = 11; i < 16; i++) {
+            check.due("almost drops", read(almost("ship 0 0 0 drops 5", i, 1)), -31);
+            check.due("almost drops", read(almost("ship 0 0 0 drops 5", i, -1)), -31);
+        }
+    }
+
+    private static String almost(String text, int at, int on) {
+        return text.substring(0, at) + (char) (text.charAt(at) + on) + text.substring(at + 1);
     }
 
     private static void numbers() {
