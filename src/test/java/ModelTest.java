@@ -2,10 +2,15 @@ import java.util.ArrayList;
 import java.util.List;
 import java.util.Random;
 
-/** Long runs of calls by draws, each answer of the class compared with the plain model's. */
+/**
+ * Long runs of calls by draws, each answer of the class compared with the plain model's. What the draws need to know they
+ * ask of the model, so that the object gets no more calls than the document grants it.
+ */
 public final class ModelTest {
-    private static final int RUNS = Integer.getInteger("runs", 400);
+    private static final int RUNS = Integer.getInteger("runs", 800);
     private static final int CALLS = 512;
+    /** Kept back for what is asked at the end of a run. */
+    private static final int LAST_LOOK = 160;
     private static final String[] WORDS = {"circles", "time", "cost", "ship", "step", "drops", ";", "x", "shi", "A"};
     private static final int[] WILD = {Integer.MIN_VALUE, Integer.MIN_VALUE + 1, -65536, -21, -2, 6, 7, 8, 20, 21, 40, 41,
         60, 61, 99, 100, 255, 256, 400, 401, 65536, 1 << 30, Integer.MAX_VALUE - 1, Integer.MAX_VALUE};
@@ -18,6 +23,7 @@ public final class ModelTest {
     private final boolean isWild;
     private String call = "";
     private int calls;
+    private long lastAnswer;
 
     private ModelTest(long seed) {
         random = new Random(seed);
@@ -38,20 +44,21 @@ public final class ModelTest {
         if (run % 4 != 0) {
             smallWorld(run % 4 == 1);
         }
-        while (calls < CALLS - 60) {
-            if (!one(random.nextInt(48)) || !sameState()) {
-                wrong++;
-                System.out.println("run " + run + " differs at its last call:");
-                System.out.println(String.join("; ", told));
-                return;
-            }
+        boolean good = true;
+        while (calls < CALLS - LAST_LOOK && good) {
+            good = one(random.nextInt(48)) && glance();
+        }
+        if (!good || !lastLook()) {
+            wrong++;
+            System.out.println("run " + run + " differs at its last call:");
+            System.out.println(String.join("; ", told));
         }
     }
 
     /** Short CIRCLES and many SHIPS, so that meetings come often. */
     private void smallWorld(boolean tiny) {
         same("circles", 2 + random.nextInt(5));
-        for (int c = 0; c < made.status(0); c++) {
+        for (int c = 0; c < model.status(0); c++) {
             same("time", c, 2 + random.nextInt(tiny ? 4 : 19));
             if (c > 0) {
                 same("cost", c - 1, 1 + random.nextInt(tiny ? 3 : 9));
@@ -59,29 +66,38 @@ public final class ModelTest {
         }
         int count = 2 + random.nextInt(5);
         for (int i = 0; i < count; i++) {
-            int c = random.nextInt(made.status(0));
-            same("ship", random.nextInt(6), c, random.nextInt(made.circleOf(c, 0)), random.nextInt(100));
+            int c = random.nextInt(model.status(0));
+            same("ship", random.nextInt(6), c, random.nextInt(model.circleOf(c, 0)), random.nextInt(100));
         }
     }
 
-    private boolean sameState() {
+    /** One thing that can be seen, so that a change where none is due is found soon. */
+    private boolean glance() {
+        switch (random.nextInt(8)) {
+            case 0: return same("status", random.nextInt(18));
+            case 1: return same("shipOf", ship(), random.nextInt(5));
+            case 2: return same("element", random.nextInt(8), random.nextInt(40));
+            case 3: return same("holds", random.nextInt(8));
+            default: return true;
+        }
+    }
+
+    private boolean lastLook() {
         boolean good = true;
-        for (int what = -1; what <= 17; what++) {
-            good &= made.status(what) == model.status(what);
+        for (int what = -1; what <= 17 && good; what++) {
+            good = same("status", what);
         }
-        for (int i = 0; i < made.status(1); i++) {
-            for (int what = 0; what < 5; what++) {
-                good &= made.shipOf(i, what) == model.shipOf(i, what);
-            }
+        for (int i = 0; i < 5 * model.status(1) && good; i++) {
+            good = same("shipOf", i / 5, i % 5);
         }
-        for (int s = 0; s < 8; s++) {
-            good &= made.holds(s) == model.holds(s);
-            for (int i = 0; i < 40; i += 1 + random.nextInt(9)) {
-                good &= made.element(s, i) == model.element(s, i);
-            }
+        for (int i = 0; i < 3 * model.status(0) && good; i++) {
+            good = same("circleOf", i / 3, i % 3);
         }
-        if (!good) {
-            told.add("the state");
+        for (int s = 0; s < 8 && good; s++) {
+            good = same("holds", s);
+        }
+        while (calls < CALLS && good) {
+            good = same("element", random.nextInt(8), random.nextInt(40));
         }
         return good;
     }
@@ -99,7 +115,7 @@ public final class ModelTest {
     }
 
     private int ship() {
-        return low(Math.max(1, made.status(1)));
+        return low(Math.max(1, model.status(1)));
     }
 
     private int shelf() {
@@ -121,14 +137,14 @@ public final class ModelTest {
             case 5: return same("show", low(8), random.nextInt(4) == 0 ? -1 : ship());
             case 6: return same("says", low(8), low(6));
             case 7: return same("circles", 2 + low(5));
-            case 8: return same("time", low(made.status(0)), 2 + low(19));
-            case 9: return same("cost", low(made.status(0)), 1 + low(9));
-            case 10: return same("ship", low(6), low(made.status(0)), low(8), low(100));
+            case 8: return same("time", low(model.status(0)), 2 + low(19));
+            case 9: return same("cost", low(model.status(0)), 1 + low(9));
+            case 10: return same("ship", low(6), low(model.status(0)), low(8), low(100));
             case 11: return same("fill", ship(), low(100));
             case 12: return text();
             case 13: return same("wipe");
             case 14: return same("shipOf", ship(), low(5));
-            case 15: return same("circleOf", low(made.status(0)), low(3));
+            case 15: return same("circleOf", low(model.status(0)), low(3));
             case 16: return same("can", ship(), 1 + low(2));
             case 17: return same("behind", ship(), low(401), low(3));
             case 18: return same("meets", ship(), ship());
@@ -141,7 +157,7 @@ public final class ModelTest {
             case 25: return wholeWay();
             case 26: return same("way", ship(), ship(), low(61));
             case 27: return same("round", ship(), low(64), low(61));
-            case 28: return same("round", ship(), random.nextInt(1 << made.status(1)) & random.nextInt(64), low(61));
+            case 28: return same("round", ship(), random.nextInt(1 << model.status(1)) & random.nextInt(64), low(61));
             case 29: return same("home", ship(), low(2));
             case 30: return same("again");
             case 31: return same("pass", ship(), ship());
@@ -211,9 +227,9 @@ public final class ModelTest {
         int step = random.nextInt(12);
         int a = ship();
         for (int i = 0; i < k; i++) {
-            int c = random.nextInt(made.status(0));
+            int c = random.nextInt(model.status(0));
             good &= same("set", s, 3 * i, step) && same("set", s, 3 * i + 1, c);
-            good &= same("set", s, 3 * i + 2, random.nextInt(made.circleOf(c, 0)));
+            good &= same("set", s, 3 * i + 2, random.nextInt(model.circleOf(c, 0)));
             step += random.nextInt(10) - (random.nextInt(20) == 0 ? 3 : 0);
         }
         return good && same("burnt", s, k, a);
@@ -223,8 +239,7 @@ public final class ModelTest {
         int a = ship();
         int b = ship();
         boolean good = same("soonest", a, b);
-        int length = made.soonest(a, b);
-        model.soonest(a, b);
+        long length = lastAnswer;
         for (int i = 0; i <= length && i < 20 && good; i++) {
             good = same("way", a, b, i);
         }
@@ -233,12 +248,11 @@ public final class ModelTest {
 
     /** Goes on to the next STEP at which some two MEET, and lets all give to all. */
     private boolean meetAndGive() {
-        int t = made.clash(60);
-        model.clash(60);
+        int t = model.clash(60);
         boolean good = t < 1 || same("step", t);
-        for (int a = 0; a < made.status(1) && good; a++) {
-            for (int b = 0; b < made.status(1) && good; b++) {
-                if (a != b && made.meets(a, b) == 1) {
+        for (int a = 0; a < model.status(1) && good; a++) {
+            for (int b = 0; b < model.status(1) && good; b++) {
+                if (a != b && model.meets(a, b) == 1) {
                     good = same("hand", a, b, 1 + random.nextInt(50)) && same("says", 0, 2)
                         && (random.nextBoolean() || same("hurl", a, b, 1 + random.nextInt(2)));
                 }
@@ -253,8 +267,12 @@ public final class ModelTest {
             b.append(i == 0 ? "" : ", ").append(a[i]);
         }
         call = b.append(')').toString();
+        if (calls == CALLS) {
+            return true;
+        }
         calls++;
         long got = ask(name, a, true);
+        lastAnswer = got;
         long due = ask(name, a, false);
         told.add(call + " = " + got + (got == due ? "" : " BUT DUE " + due));
         return got == due;
